@@ -21,16 +21,11 @@ public final class RebusSigns {
     private final History history = new History();
     private final Scribe scribe = new Scribe();
     private final Reader reader = new Reader();
-    private Lexicon laid = new Lexicon();
+    private Lexicon laid = firstLexicon();
     /** A text is read into the draft, so that a faulty one leaves what is laid as it was. */
     private Lexicon draft = new Lexicon();
 
     public RebusSigns() {
-        for (int i = 0; i < FIRST_TEXT.length(); i++) {
-            text.put(FIRST_TEXT.charAt(i));
-        }
-        Parser.firstFault(text, laid);
-        text.clear();
     }
 
     // ---- told
@@ -295,6 +290,16 @@ public final class RebusSigns {
 
     // ---- what the calls share
 
+    private static Lexicon firstLexicon() {
+        Letters letters = new Letters(FIRST_TEXT.length());
+        for (int i = 0; i < FIRST_TEXT.length(); i++) {
+            letters.put(FIRST_TEXT.charAt(i));
+        }
+        Lexicon lexicon = new Lexicon();
+        Parser.firstFault(letters, lexicon);
+        return lexicon;
+    }
+
     private void turn(Sign sign) {
         if (sign != null) {
             sign.struck = !sign.struck;
@@ -490,10 +495,6 @@ public final class RebusSigns {
             }
             return true;
         }
-
-        boolean isSameAs(Letters other) {
-            return size == other.size && hasAt(0, other);
-        }
     }
 
     /** Numbers of signs one behind the other, up to a bound. */
@@ -676,7 +677,10 @@ public final class RebusSigns {
         int wordOf(int group, Letters letters) {
             for (int w = 0; w < wordCount; w++) {
                 Word word = wordAt(w);
-                if (word != null && word.group == group && word.letters.isSameAs(letters)) {
+                if (word == null || word.group != group || word.letters.size() != letters.size()) {
+                    continue;
+                }
+                if (word.letters.hasAt(0, letters)) {
                     return w;
                 }
             }
