@@ -160,6 +160,25 @@ public final class InscriptionBoundsTest {
             b.due("what can't be undone stays", x.count(4), changes - kept);
             b.due("its last sign", x.carved(changes - kept - 1), changes == kept ? BAD : (changes - kept - 1) % 3);
         }
+        RebusSigns struck = b.laid(Bounds.repeat("sa;", 12) + "w0,a;");
+        for (int s = 0; s < 12; s++) {
+            struck.strike(s, 1);
+        }
+        for (int s = 11; s >= 6; s--) {
+            b.due("undo() strike of " + s, struck.undo(), s - 6);
+            b.due("sign(" + s + ", 3)", struck.sign(s, 3), 0);
+            b.due("the one ahead of it", struck.sign(s - 1, 3), 1);
+        }
+        b.due("six stay struck", struck.count(3), 6);
+        RebusSigns chipped = b.laid("sa;sb;sc;sd;se;sf;sg;sh;w0,a;", 0, 1, 2, 3, 4, 5, 6, 7);
+        for (int k = 7; k >= 0; k--) {
+            chipped.chip();
+        }
+        for (int k = 0; k < 6; k++) {
+            b.due("undo() chip of " + k, chipped.undo(), 5 - k);
+            b.due("carved(" + k + ")", chipped.carved(k), k);
+        }
+        b.due("two stay away", chipped.undo(), NO);
         RebusSigns mixed = b.laid("sa;sb;w0,a;");
         mixed.strike(1, 1);
         mixed.law(1);

@@ -188,9 +188,13 @@ public final class RefusedTest {
             b.due("one more: mark", x.mark(n), BAD);
             b.due("one more: writings", x.writings(n), BAD);
         }
-        RebusSigns fewer = b.laid("sa;sb;sc;w0,a;w1,b;w2,c;");
+        RebusSigns fewer = b.laid("sa;sb;sc;w0,a;w1,a;w2,a;");
+        b.due("words that have a writing", fewer.count(5) * 10 + fewer.sign(0, 4), 33);
         Bounds.tell(fewer, "sa;w0,a;");
         b.due("lay() of fewer", fewer.lay(), 1);
+        b.due("words that have a writing now", fewer.count(5) * 10 + fewer.sign(0, 4), 11);
+        b.due("clear words now", fewer.count(6), 1);
+        b.due("mixed words now", fewer.count(7) * 10 + fewer.word(0, 4), 0);
         b.due("what was there before is not there", fewer.sign(1, 0), BAD);
         b.due("what was there before is not there", fewer.carve(1), BAD);
         b.due("what was there before is not there", fewer.word(1, 0), BAD);
@@ -224,10 +228,10 @@ public final class RefusedTest {
         x.undo();
         b.due("readings() of one", x.readings(), 2);
         b.due("cut(1)", x.cut(1), NONE);
-        Bounds.tell(x, "sb;w0,b;");
-        b.due("lay()", x.lay(), 1);
-        b.due("least(0, 0) of the new text", x.least(0, 0), 0);
-        b.due("writings(0) of the new text", x.writings(0), 1);
+        Bounds.tell(x, "m0;sb;w0,b;");
+        b.due("lay()", x.lay(), 2);
+        b.due("least(0, 0) of the new text", x.least(0, 0), 1);
+        b.due("writings(0) of the new text", x.writings(0), 2);
         b.due("count(7) of the new text", x.count(7), 0);
     }
 

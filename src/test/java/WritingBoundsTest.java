@@ -148,6 +148,22 @@ public final class WritingBoundsTest {
         b.dueRead(x, 0, 2, 0);
         b.dueRead(x, 0, 0);
         b.dueRead(x, 0, 0, 2, 3);
+        RebusSigns over = b.laid("sb;sbc;sbb;w0,bbbbbbbb;w1,bb;");
+        b.dueRead(over, 0, 0, 0, 0, 0, 0, 0, 0, 1);
+        b.dueRead(over, 0, 0, 0, 0, 0, 0, 0, 0, 2);
+        b.dueRead(over, 1, 0, 0, 0, 0, 0, 0, 2);
+        b.dueRead(over, 0, 0, 2);
+        b.dueRead(over, 2, 2);
+        RebusSigns shorter = b.laid("sbcd;w0,bcd;");
+        Bounds.tell(shorter, "sbcd;w0,b;");
+        shorter.lay();
+        shorter.lay();
+        b.dueRead(shorter, 0, 0);
+        b.dueNoLeast(shorter, 0);
+        Bounds.tell(shorter, "sb;w0,bcd;");
+        shorter.lay();
+        shorter.lay();
+        b.dueRead(shorter, 0, 0);
         b.due("ban: b an, b a n", x.writings(0), 2);
         b.due("ba: b a", x.writings(1), 1);
         b.due("bana: b an a, b a n a", x.writings(2), 2);
@@ -328,6 +344,9 @@ public final class WritingBoundsTest {
         b.due("the mark of class 2", picture.mark(2), 2);
         b.due("class 3 has no mark", picture.word(3, 3), 0);
         b.due("three are clear", picture.count(6), 3);
+        RebusSigns none = b.laid("sa;w0,aa;w1,a;k1;");
+        b.due("no mark: no other sign stands for one", none.word(0, 3), 0);
+        b.due("no mark", none.mark(0), NONE);
         RebusSigns least = b.laid("sba;sb;sa;m0;w0,ba;w1,ba;w2,b;");
         b.due("only the least writing counts", least.word(1, 3), 0);
         b.due("b", least.word(2, 3), 1);
@@ -512,6 +531,8 @@ public final class WritingBoundsTest {
         for (int w : new int[] {Integer.MIN_VALUE, -1, 5, 8, Integer.MAX_VALUE}) {
             b.due("writings(" + w + ")", x.writings(w), BAD);
         }
+        RebusSigns ends = b.laid("m0;sa;m0;w0,a;");
+        b.due("marks at both ends of the signs", ends.writings(0), 3);
         RebusSigns unlike = b.laid("sa;w0,aaaaaaaa;w1,aea;w2,aab;k1;");
         b.due("a row counts once, in however many ways it lies in the word", unlike.writings(0), 8);
         b.due("a, a a", unlike.writings(1), 2);
